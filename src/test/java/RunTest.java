@@ -1,0 +1,94 @@
+/** Promises 4 and 5: run and result. */
+public final class RunTest {
+    public static void main(String[] args) {
+        Due due = new Due();
+        nothingRunYet(due);
+        outcomes(due);
+        refusals(due);
+        latest(due);
+        changesNothing(due);
+        due.end();
+    }
+
+    private static void isResult(Due due, String name, ScriptLedger x, int... results) {
+        for (int what = 0; what < results.length; what++) {
+            due.same(name + ": result " + what, x.result(what), results[what]);
+        }
+        for (int what : new int[] {-1, 4, 5, Integer.MAX_VALUE, Integer.MIN_VALUE}) {
+            due.same(name + ": result " + what, x.result(what), -1);
+        }
+    }
+
+    private static void nothingRunYet(Due due) {
+        ScriptLedger x = new ScriptLedger(0);
+        isResult(due, "new", x, -1, -1, -1, -1);
+        Program.define(x, Program.script(Program.yes()));
+        isResult(due, "only defined", x, -1, -1, -1, -1);
+        x.run(1, 0, 0, 99);
+        isResult(due, "only refused", x, -1, -1, -1, -1);
+    }
+
+    private static void outcomes(Due due) {
+        ScriptLedger x = new ScriptLedger(0);
+        Program.define(x, Program.script(Program.builtin(Program.EQUAL, Program.variable(2), Program.variable(1))));
+        Program.define(x, Program.script(Program.variable(2)));
+        Program.define(x, Program.script(Program.error()));
+        due.same("true", x.run(0, 7, 7, 99), 0);
+        isResult(due, "true", x, 0, 9, 1, 1);
+        due.same("false", x.run(0, 7, 8, 99), 1);
+        isResult(due, "false", x, 1, 9, 1, 0);
+        due.same("another value", x.run(1, 7, 8, 99), 1);
+        isResult(due, "another value", x, 1, 4, 0, 7);
+        due.same("1 is not true", x.run(1, 1, 1, 99), 1);
+        isResult(due, "1 is not true", x, 1, 4, 0, 1);
+        due.same("a number below 0", x.run(1, Integer.MIN_VALUE, 8, 99), 1);
+        isResult(due, "a number below 0", x, 1, 4, 0, Integer.MIN_VALUE);
+        due.same("failed", x.run(2, 7, 8, 99), 2);
+        isResult(due, "failed", x, 2, 4, -1, 0);
+        due.same("out", x.run(0, 7, 7, 8), 3);
+        isResult(due, "out", x, 3, 8, -1, 0);
+        due.same("just enough", x.run(0, 7, 7, 9), 0);
+        isResult(due, "just enough", x, 0, 9, 1, 1);
+        due.same("no steps at all", x.run(0, 7, 7, 0), 3);
+        isResult(due, "no steps at all", x, 3, 0, -1, 0);
+    }
+
+    private static void refusals(Due due) {
+        ScriptLedger x = new ScriptLedger(0);
+        Program.define(x, Program.script(Program.variable(1)));
+        due.same("run", x.run(0, 1, 33, 50), 1);
+        for (int script : new int[] {-1, 1, 5, 6, Integer.MAX_VALUE, Integer.MIN_VALUE}) {
+            due.same("run of script " + script, x.run(script, 0, 0, 99), -1);
+        }
+        for (int budget : new int[] {-1, 100, Integer.MAX_VALUE, Integer.MIN_VALUE}) {
+            due.same("run with budget " + budget, x.run(0, 0, 0, budget), -1);
+        }
+        isResult(due, "what is refused is no run", x, 1, 4, 0, 33);
+        due.same("budget 99", x.run(0, 1, 34, 99), 1);
+        due.same("budget 0", x.run(0, 1, 34, 0), 3);
+    }
+
+    private static void latest(Due due) {
+        ScriptLedger x = new ScriptLedger(0);
+        for (int script = 0; script < 6; script++) {
+            Program.define(x, Program.script(Program.integer(script)));
+        }
+        for (int script = 5; script >= 0; script--) {
+            due.same("run", x.run(script, 0, 0, 99), 1);
+            isResult(due, "script " + script, x, 1, 4, 0, script);
+        }
+    }
+
+    private static void changesNothing(Due due) {
+        ScriptLedger x = new ScriptLedger(0);
+        Program.define(x, Program.script(Program.yes()));
+        Program.type(x, 3);
+        x.spend(0, 0);
+        x.run(0, 0, 0, 99);
+        due.same("the draft stays", Program.define(x, 4), 1);
+        x.terms(6, 0, 40, 1, 0);
+        due.same("the transaction stays", x.submit(), 6);
+        due.same("the pot", x.pot(), 0);
+        due.same("the outputs", x.outputs(), 2);
+    }
+}

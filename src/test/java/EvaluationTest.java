@@ -91,6 +91,11 @@ public final class EvaluationTest {
         due("values around the lambda", Program.apply(appliesIt, keepsFirst), OTHER, 10, INTEGER, FIRST);
         due("a function of a function", Program.apply(Program.lambda(Program.lambda(Program.variable(1))),
             Program.integer(9)), OTHER, 4, FUNCTION, 0);
+        int[] addsToBoth = Program.lambda(Program.builtin(Program.ADD,
+            Program.apply(Program.variable(0), Program.integer(1)),
+            Program.apply(Program.variable(0), Program.integer(2))));
+        due("a builtin with an argument, used twice",
+            Program.apply(addsToBoth, Program.builtin(Program.ADD, Program.integer(10))), OTHER, 17, INTEGER, 23);
         fails("an integer applied", Program.apply(Program.integer(1), Program.integer(2)), 3);
         fails("a list applied", Program.apply(Program.nil(), Program.integer(2)), 3);
         fails("a boolean applied", Program.apply(Program.yes(), Program.integer(2)), 8);
@@ -150,6 +155,7 @@ public final class EvaluationTest {
         reckoned(Program.DIVIDE, -7, 2, -3);
         reckoned(Program.DIVIDE, 7, -2, -3);
         reckoned(Program.DIVIDE, 0, 5, 0);
+        reckoned(Program.DIVIDE, 9, 1, 9);
         reckoned(Program.DIVIDE, least, -1, least);
         int[] divided = Program.builtin(Program.DIVIDE, Program.variable(2), Program.variable(1));
         dueOf("5 / 0", divided, 5, 0, new int[] {FAILED, LAMBDAS + 8, NO_VALUE, 0});

@@ -6,6 +6,8 @@ public final class RunTest {
         outcomes(due);
         refusals(due);
         latest(due);
+        nothingIsLeftOver(due);
+        manyRuns(due);
         changesNothing(due);
         due.end();
     }
@@ -76,6 +78,41 @@ public final class RunTest {
         for (int script = 5; script >= 0; script--) {
             due.same("run", x.run(script, 0, 0, 99), 1);
             isResult(due, "script " + script, x, 1, 4, 0, script);
+        }
+    }
+
+    /** A run that stops in the midst of terms, or had a number as its value, does not show in the next one. */
+    private static void nothingIsLeftOver(Due due) {
+        ScriptLedger x = new ScriptLedger(0);
+        int[] openTerms = Program.repeat(6, 3, Program.builtin(Program.HEAD, Program.variable(0)));
+        Program.define(x, Program.script(openTerms));
+        Program.define(x, Program.script(Program.builtin(Program.ADD, Program.integer(1), Program.endless())));
+        Program.define(x, Program.script(Program.yes()));
+        Program.define(x, Program.script(Program.variable(2)));
+        Program.define(x, Program.script(Program.builtin(Program.ADD)));
+        due.same("failed inside", x.run(0, 0, 0, 99), 2);
+        due.same("true behind it", x.run(2, 0, 0, 99), 0);
+        isResult(due, "true behind it", x, 0, 9, 1, 1);
+        due.same("out inside", x.run(1, 0, 0, 99), 3);
+        due.same("true behind it", x.run(2, 0, 0, 99), 0);
+        isResult(due, "true behind it", x, 0, 9, 1, 1);
+        due.same("out before all values are taken", x.run(2, 0, 0, 1), 3);
+        due.same("true behind it", x.run(2, 0, 0, 99), 0);
+        due.same("a number", x.run(3, 77, 0, 99), 1);
+        due.same("a function behind it", x.run(4, 0, 0, 99), 1);
+        isResult(due, "a function behind it", x, 1, 4, 3, 0);
+    }
+
+    private static void manyRuns(Due due) {
+        ScriptLedger x = new ScriptLedger(0);
+        int[] grower = Program.lambda(Program.lambda(Program.apply(Program.variable(1), Program.variable(1),
+            Program.builtin(Program.CONS, Program.integer(1), Program.variable(0)))));
+        Program.define(x, Program.apply(grower, grower, Program.nil()));
+        Program.define(x, Program.script(Program.builtin(Program.SUBTRACT, Program.variable(2), Program.variable(1))));
+        for (int i = 0; i < 200; i++) {
+            due.same("a long run", x.run(0, 0, 0, 99), 3);
+            due.same("a short run", x.run(1, i, 5, 99), 1);
+            due.same("its number", x.result(3), i - 5);
         }
     }
 

@@ -20,7 +20,10 @@ public final class SubmitTest {
         DUE.end();
     }
 
-    /** Script 0 always agrees, script 1 fails; outputs: 2 is locked by script 0, 3 by script 1, 4 to 6 as said. */
+    /**
+     * Script 0 agrees, script 1 fails. Outputs 0 and 1 are spent; 300 coins each are locked by script 0
+     * in output 2, by script 1 in 3, by script 5 in 4; then come 600 of key 1, 40 of key 0, 60 of script 0.
+     */
     private static ScriptLedger furnished() {
         ScriptLedger x = new ScriptLedger(500);
         Program.define(x, Program.script(Program.yes()));
@@ -203,6 +206,14 @@ public final class SubmitTest {
         x.spend(4, 0);
         x.guarantee(5);
         DUE.same("script 5 is not defined", submit(x, 300, 15, 99), 8);
+        x = new ScriptLedger(0);
+        x.spend(0, 0);
+        x.give(4, 0, 100, 0, 0);
+        x.give(0, 0, 380, 0, 0);
+        DUE.same("locked by script 0", submit(x, 20, 1, 0), 0);
+        x.spend(2, 0);
+        x.guarantee(1);
+        DUE.same("script 0 is not defined", submit(x, 100, 2, 0), 8);
         x = new ScriptLedger(0);
         x.spend(0, 0);
         x.give(0, 0, 480, 1, 0);

@@ -1,10 +1,16 @@
 /** Promises 13, 14 and 19: block, rollback and height. */
 public final class BlockTest {
     private static final Due DUE = new Due();
+    /** Kinds of transactions in a Chain that no height up to 9 has. */
+    private static final int OTHER_PASS = 30;
+    private static final int OTHER_LOSS = 31;
+    private static final int THIRD_PASS = 33;
 
     public static void main(String[] args) {
         blocks();
-        refusedRollbacks();
+        rollbacksThatAreRefused();
+        asItWasThen();
+        asItWasThenAgain();
         takesBack();
         takesBackTheSeized();
         respent();
@@ -27,18 +33,123 @@ public final class BlockTest {
         DUE.same("a 41st", x.block(), -1);
     }
 
-    private static void refusedRollbacks() {
-        ScriptLedger x = new ScriptLedger(0);
-        DUE.same("rollback(0) at 0", x.rollback(0), 2);
-        for (int height = 0; height < 8; height++) {
-            for (int k : new int[] {-1, 5, height + 1, Integer.MAX_VALUE, Integer.MIN_VALUE}) {
-                if (k < 0 || k > 4 || k > height) {
-                    DUE.same("rollback(" + k + ") at " + height, x.rollback(k), -1);
-                    DUE.same("height", x.height(), height);
+    /** "-1 when k is not 0 .. 4 or more than the height". */
+    private static void rollbacksThatAreRefused() {
+        for (int height : new int[] {0, 1, 2, 3, 4, 5, 6, 39, 40}) {
+            for (int k : new int[] {Integer.MIN_VALUE, -1, 0, 1, 2, 3, 4, 5, 6, 39, 40, 41, Integer.MAX_VALUE}) {
+                ScriptLedger x = new ScriptLedger(0);
+                for (int i = 0; i < height; i++) {
+                    x.block();
                 }
+                boolean isRefused = k < 0 || k > 4 || k > height;
+                DUE.same("rollback(" + k + ") at " + height, x.rollback(k), isRefused ? -1 : 2);
+                DUE.same("height", x.height(), isRefused ? height : height - k);
             }
-            x.block();
         }
+    }
+
+    /** A transaction at each height, of three kinds by turns; one of them loses its guarantee. */
+    private static final class Chain {
+        final ScriptLedger x = new ScriptLedger(999);
+        private int main;
+        private int coin = 1499;
+        private int spare;
+        private int outputs = 2;
+
+        Chain() {
+            Program.define(x, Program.error());
+        }
+
+        /** Up to the beginning of a height. */
+        Chain to(int height) {
+            for (int i = 0; i < height; i++) {
+                act(i);
+                DUE.same("block", x.block(), i + 1);
+            }
+            return this;
+        }
+
+        void act(int kind) {
+            if (kind % 3 == 1) {
+                Deal deal = new Deal().input(main, 0).mint(1, 1, 0).gift(0, 0, coin - 20, 1, 0);
+                DUE.same("a guarantee is lost", deal.fee(20).signers(1).budget(9).guarantee(spare).submit(DUE, x), 1);
+                return;
+            }
+            Deal deal = new Deal().input(main, 0).gift(0, kind, coin - 60 - kind, 0, 0).gift(0, 0, 50, 0, 0);
+            DUE.same("a pass", deal.fee(10 + kind).signers(1).submit(DUE, x), 0);
+            main = outputs;
+            spare = outputs + 1;
+            coin -= 60 + kind;
+            outputs += 2;
+        }
+    }
+
+    private static void alike(String name, Chain one, Chain other) {
+        DUE.same(name, Seen.ofLedger(one.x), Seen.ofLedger(other.x));
+    }
+
+    /**
+     * "Takes back all that transactions did since the height became the height less k (or since the beginning)":
+     * the ledger is as that of an object which came to that height and stopped there.
+     */
+    private static void asItWasThen() {
+        for (int height = 0; height <= 9; height++) {
+            for (int k = 0; k <= 4 && k <= height; k++) {
+                Chain back = new Chain().to(height);
+                back.act(height);
+                Chain then = new Chain().to(height - k);
+                DUE.same("rollback(" + k + ") at " + height, back.x.rollback(k), then.outputs);
+                alike("rollback(" + k + ") at " + height, back, then);
+            }
+        }
+    }
+
+    /** The same when blocks were taken back before, and others came in their place. */
+    private static void asItWasThenAgain() {
+        for (int k = 0; k <= 4; k++) {
+            Chain then = new Chain().to(6 - k);
+            goOn(then);
+            alike("back by " + k + ", on by 2", backAndOn(k), then);
+            for (int again = 0; again <= 4; again++) {
+                then = new Chain().to(Math.min(6 - k, 8 - k - again));
+                if (again < 2) {
+                    then.act(OTHER_PASS);
+                    then.x.block();
+                }
+                if (again < 1) {
+                    then.act(THIRD_PASS);
+                    then.x.block();
+                }
+                Chain back = backAndOn(k);
+                back.x.rollback(again);
+                alike("back by " + k + ", on by 2, back by " + again, back, then);
+            }
+        }
+    }
+
+    private static Chain backAndOn(int k) {
+        Chain chain = new Chain().to(6);
+        chain.act(6);
+        chain.x.rollback(k);
+        copyPlace(new Chain().to(6 - k), chain);
+        goOn(chain);
+        return chain;
+    }
+
+    private static void copyPlace(Chain from, Chain to) {
+        to.main = from.main;
+        to.spare = from.spare;
+        to.coin = from.coin;
+        to.outputs = from.outputs;
+    }
+
+    /** Two blocks more, with other transactions, and one in the block under way. */
+    private static void goOn(Chain chain) {
+        chain.act(OTHER_PASS);
+        chain.x.block();
+        chain.act(THIRD_PASS);
+        chain.x.block();
+        chain.act(OTHER_LOSS);
     }
 
     /** Spends an output of a key whole into one that the same key locks. */

@@ -1,3 +1,5 @@
+import java.util.List;
+
 /** Counts the answers that are not the ones due. */
 final class Due {
     private int wrong;
@@ -15,6 +17,13 @@ final class Due {
 
     void no(String call, boolean got) {
         same(call, got ? 1 : 0, 0);
+    }
+
+    void same(String name, List<Integer> got, List<Integer> want) {
+        if (!got.equals(want)) {
+            wrong++;
+            System.out.println(name + ": answers " + got + ", due are " + want);
+        }
     }
 
     void end() {

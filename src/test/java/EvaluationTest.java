@@ -29,7 +29,11 @@ public final class EvaluationTest {
         choice();
         lists();
         wrongKinds();
-        budgets();
+        argumentsOfBuiltins();
+        valuesAround();
+        threeSteps();
+        allSteps();
+        growing();
         withoutLambdas();
         DUE.end();
     }
@@ -53,6 +57,23 @@ public final class EvaluationTest {
         DUE.same(name + ": run", x.run(0, first, second, budget), results[0]);
         for (int what = 0; what < results.length; what++) {
             DUE.same(name + ": result " + what, x.result(what), results[what]);
+        }
+        if (budget == 99) {
+            withinEveryBudget(name, x, first, second, results);
+        }
+    }
+
+    /**
+     * "As soon as the steps would be more than the budget the run is OUT, with as many steps as the budget":
+     * the results are those within 99 steps.
+     */
+    private static void withinEveryBudget(String name, ScriptLedger x, int first, int second, int[] results) {
+        for (int budget = 0; budget <= 99; budget++) {
+            boolean isOut = results[0] == OUT || budget < results[1];
+            DUE.same(name + " within " + budget, x.run(0, first, second, budget), isOut ? OUT : results[0]);
+            DUE.same(name + " within " + budget + ": steps", x.result(1), isOut ? budget : results[1]);
+            DUE.same(name + " within " + budget + ": kind", x.result(2), isOut ? NO_VALUE : results[2]);
+            DUE.same(name + " within " + budget + ": number", x.result(3), isOut ? 0 : results[3]);
         }
     }
 
@@ -209,8 +230,16 @@ public final class EvaluationTest {
         due("EMPTY of a list", Program.builtin(Program.EMPTY, list), OTHER, 14, BOOLEAN, 0);
         due("EMPTY of nil", Program.builtin(Program.EMPTY, Program.nil()), TRUE, 4, BOOLEAN, 1);
         due("EMPTY of the third value", Program.builtin(Program.EMPTY, Program.variable(0)), TRUE, 4, BOOLEAN, 1);
+        int[] single = Program.builtin(Program.CONS, two, Program.nil());
+        due("HEAD of one", Program.builtin(Program.HEAD, single), OTHER, 9, INTEGER, 2);
+        due("TAIL of one", Program.builtin(Program.TAIL, single), OTHER, 9, LIST, 0);
+        due("EMPTY of one", Program.builtin(Program.EMPTY, single), OTHER, 9, BOOLEAN, 0);
+        due("EMPTY of the TAIL of one", Program.builtin(Program.EMPTY, Program.builtin(Program.TAIL, single)),
+            TRUE, 12, BOOLEAN, 1);
         fails("HEAD of nil", Program.builtin(Program.HEAD, Program.nil()), 4);
         fails("TAIL of nil", Program.builtin(Program.TAIL, Program.nil()), 4);
+        fails("HEAD of the TAIL of one", Program.builtin(Program.HEAD, Program.builtin(Program.TAIL, single)), 12);
+        fails("TAIL of the TAIL of one", Program.builtin(Program.TAIL, Program.builtin(Program.TAIL, single)), 12);
         int[] listOfList = Program.builtin(Program.CONS, list, Program.nil());
         due("a list in a list", listOfList, OTHER, 16, LIST, 1);
         due("HEAD of a list of lists", Program.builtin(Program.HEAD, listOfList), OTHER, 19, LIST, 2);
@@ -255,7 +284,56 @@ public final class EvaluationTest {
         }
     }
 
-    private static void budgets() {
+    /** "a builtin takes it as its next argument, and when it has all of them it is DONE". */
+    private static void argumentsOfBuiltins() {
+        int[] one = Program.integer(1);
+        int[] list = Program.nil();
+        int[][] sums = {{Program.ADD, 2}, {Program.SUBTRACT, 0}, {Program.MULTIPLY, 1}, {Program.DIVIDE, 1}};
+        for (int[] sum : sums) {
+            int cost = sum[0] == Program.MULTIPLY || sum[0] == Program.DIVIDE ? 3 : 1;
+            due(sum[0] + " of none", Program.builtin(sum[0]), OTHER, 1, FUNCTION, 0);
+            due(sum[0] + " of one", Program.builtin(sum[0], one), OTHER, 3, FUNCTION, 0);
+            due(sum[0] + " of two", Program.builtin(sum[0], one, one), OTHER, 5 + cost, INTEGER, sum[1]);
+            fails(sum[0] + " of three", Program.builtin(sum[0], one, one, one), 7 + cost);
+        }
+        for (int builtin = Program.EQUAL; builtin <= Program.LESS; builtin++) {
+            boolean isSame = builtin == Program.EQUAL;
+            due(builtin + " of one", Program.builtin(builtin, one), OTHER, 3, FUNCTION, 0);
+            due(builtin + " of two", Program.builtin(builtin, one, one), isSame ? TRUE : OTHER, 6, BOOLEAN, isSame ? 1 : 0);
+            fails(builtin + " of three", Program.builtin(builtin, one, one, one), 8);
+        }
+        due("IF of one", Program.builtin(Program.IF, one), OTHER, 3, FUNCTION, 0);
+        due("IF of two", Program.builtin(Program.IF, one, one), OTHER, 5, FUNCTION, 0);
+        due("IF of three", Program.builtin(Program.IF, Program.yes(), one, one), OTHER, 13, INTEGER, 1);
+        due("CONS of one", Program.builtin(Program.CONS, one), OTHER, 3, FUNCTION, 0);
+        due("CONS of two", Program.builtin(Program.CONS, one, list), OTHER, 6, LIST, 1);
+        fails("CONS of three", Program.builtin(Program.CONS, one, list, list), 8);
+        due("HEAD of none", Program.builtin(Program.HEAD), OTHER, 1, FUNCTION, 0);
+        due("TAIL of none", Program.builtin(Program.TAIL), OTHER, 1, FUNCTION, 0);
+        due("EMPTY of none", Program.builtin(Program.EMPTY), OTHER, 1, FUNCTION, 0);
+        fails("EMPTY of two", Program.builtin(Program.EMPTY, list, list), 6);
+    }
+
+    /** "number k of the values around it, from 0", "the innermost first": eleven of them, the most that has room. */
+    private static void valuesAround() {
+        for (int k = 0; k <= 10; k++) {
+            int[] whole = Program.repeat(1, 11, Program.variable(k));
+            int[] given = {FIRST, SECOND};
+            for (int i = 0; i < 8; i++) {
+                whole = Program.apply(whole, Program.integer(10 - i));
+            }
+            int[] results = {OTHER, 28, INTEGER, k >= 3 ? k : 0};
+            if (k == 0) {
+                results[2] = LIST;
+            } else if (k <= 2) {
+                results[3] = given[2 - k];
+            }
+            dueOfWhole("value " + k + " of eleven", whole, FIRST, SECOND, 99, results);
+        }
+    }
+
+    /** "(that step, or the first that would be too many of a builtin's, and what it would have done, not done)". */
+    private static void threeSteps() {
         int[] product = Program.script(Program.builtin(Program.MULTIPLY, Program.integer(6), Program.integer(7)));
         for (int budget = 0; budget < 11; budget++) {
             dueOfWhole("6 * 7 in " + budget, product, 0, 0, budget, new int[] {OUT, budget, NO_VALUE, 0});
@@ -263,18 +341,50 @@ public final class EvaluationTest {
         dueOfWhole("6 * 7 in 11", product, 0, 0, 11, new int[] {OTHER, 11, INTEGER, 42});
         dueOfWhole("6 * 7 in 12", product, 0, 0, 12, new int[] {OTHER, 11, INTEGER, 42});
         int[] quotient = Program.script(Program.builtin(Program.DIVIDE, Program.integer(6), Program.integer(0)));
-        dueOfWhole("6 / 0 in 10", quotient, 0, 0, 10, new int[] {OUT, 10, NO_VALUE, 0});
+        for (int budget = 8; budget < 11; budget++) {
+            dueOfWhole("6 / 0 in " + budget, quotient, 0, 0, budget, new int[] {OUT, budget, NO_VALUE, 0});
+        }
         dueOfWhole("6 / 0 in 11", quotient, 0, 0, 11, new int[] {FAILED, 11, NO_VALUE, 0});
+        int[] wrongKind = Program.script(Program.builtin(Program.MULTIPLY, Program.integer(6), Program.nil()));
+        dueOfWhole("6 * nil in 10", wrongKind, 0, 0, 10, new int[] {OUT, 10, NO_VALUE, 0});
+        dueOfWhole("6 * nil in 11", wrongKind, 0, 0, 11, new int[] {FAILED, 11, NO_VALUE, 0});
         int[] sum = Program.script(Program.builtin(Program.ADD, Program.integer(6), Program.nil()));
         dueOfWhole("6 + nil in 8", sum, 0, 0, 8, new int[] {OUT, 8, NO_VALUE, 0});
         dueOfWhole("6 + nil in 9", sum, 0, 0, 9, new int[] {FAILED, 9, NO_VALUE, 0});
         dueOfWhole("error in 0", Program.error(), 0, 0, 0, new int[] {OUT, 0, NO_VALUE, 0});
         dueOfWhole("error in 1", Program.error(), 0, 0, 1, new int[] {FAILED, 1, NO_VALUE, 0});
+    }
+
+    /** A delayed product of four, forced three times; the two builtins join what comes of it. */
+    private static int[] threeProducts(int outer, int inner, int[] product) {
+        int[] forced = Program.force(Program.variable(0));
+        int[] joined = Program.builtin(outer, Program.builtin(inner, forced, forced), forced);
+        return Program.script(Program.apply(Program.lambda(joined), Program.delay(product)));
+    }
+
+    /** A budget of 99 is enough for 99 steps, and not for 100. */
+    private static void allSteps() {
+        int[] two = Program.integer(2);
+        int[] product = Program.builtin(Program.MULTIPLY, Program.builtin(Program.MULTIPLY,
+            Program.builtin(Program.MULTIPLY, two, two), two), two);
+        int[] fourStepsMore = Program.force(Program.delay(Program.force(Program.delay(product))));
+        int[] threeStepsMore = Program.apply(Program.lambda(product), Program.nil());
+        dueOfWhole("98 steps", threeProducts(Program.ADD, Program.ADD, fourStepsMore), 0, 0, 99,
+            new int[] {OTHER, 98, INTEGER, 48});
+        dueOfWhole("99 steps", threeProducts(Program.MULTIPLY, Program.MULTIPLY, threeStepsMore), 0, 0, 99,
+            new int[] {OTHER, 99, INTEGER, 4096});
+        dueOfWhole("100 steps", threeProducts(Program.MULTIPLY, Program.ADD, fourStepsMore), 0, 0, 99,
+            new int[] {OUT, 99, NO_VALUE, 0});
+    }
+
+    private static void growing() {
         dueOfWhole("endless in 99", Program.endless(), 0, 0, 99, new int[] {OUT, 99, NO_VALUE, 0});
         // Every turn leaves a frame more, so the stack grows as long as there are steps.
         int[] grower = Program.lambda(Program.apply(Program.builtin(Program.HEAD),
             Program.apply(Program.variable(0), Program.variable(0))));
         dueOfWhole("a growing stack", Program.apply(grower, grower), 0, 0, 99, new int[] {OUT, 99, NO_VALUE, 0});
+        int[] forces = Program.lambda(Program.force(Program.force(Program.apply(Program.variable(0), Program.variable(0)))));
+        dueOfWhole("a stack of forces", Program.apply(forces, forces), 0, 0, 99, new int[] {OUT, 99, NO_VALUE, 0});
         int[] lists = Program.lambda(Program.lambda(Program.apply(Program.variable(1), Program.variable(1),
             Program.builtin(Program.CONS, Program.integer(1), Program.variable(0)))));
         dueOfWhole("a growing list", Program.apply(lists, lists, Program.nil()), 0, 0, 99,

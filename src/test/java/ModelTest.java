@@ -9,6 +9,8 @@ import java.util.Random;
 public final class ModelTest {
     private static final int RUNS = 1500;
     private static final int CALLS = 512;
+    /** What the dearest act (a script typed byte by byte) and the questions at the end take. */
+    private static final int LAST_CALLS = 120;
 
     private final Due due = new Due();
     private final int[] submitted = new int[11];
@@ -49,7 +51,7 @@ public final class ModelTest {
         for (int i = 0; i < early; i++) {
             define();
         }
-        while (calls < CALLS - 60) {
+        while (calls < CALLS - LAST_CALLS) {
             act();
         }
         askAll();

@@ -3,8 +3,8 @@ public final class NewObjectTest {
     public static void main(String[] args) {
         Due due = new Due();
         int[][] coinsAndAmounts = {
-            {0, 500}, {1, 501}, {250, 750}, {999, 1499}, {1000, 500}, {1001, 501}, {-1, 500}, {-999, 500},
-            {-1000, 500}, {Integer.MAX_VALUE, 1147}, {Integer.MIN_VALUE, 500}};
+            {0, 500}, {1, 501}, {250, 750}, {999, 1499}, {1000, 500}, {1001, 501}, {1999, 1499}, {2000, 500},
+            {-1, 500}, {-999, 500}, {-1000, 500}, {-1001, 500}, {Integer.MAX_VALUE, 1147}, {Integer.MIN_VALUE, 500}};
         for (int[] pair : coinsAndAmounts) {
             looksNew(due, pair[0], pair[1]);
         }
@@ -32,6 +32,9 @@ public final class NewObjectTest {
 
     private static void startsEmpty(Due due) {
         due.same("an empty draft is malformed", new ScriptLedger(0).define(), -2);
+        ScriptLedger x = new ScriptLedger(0);
+        due.yes("an empty draft has room for 48 bytes", Program.type(x, new int[48]));
+        due.no("and for no more", x.type(8, 1));
         due.same("an empty transaction has no input", new ScriptLedger(0).submit(), 2);
         due.same("no script is there", new ScriptLedger(0).run(0, 0, 0, 99), -1);
         due.same("nothing was run", new ScriptLedger(0).result(0), -1);

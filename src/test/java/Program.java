@@ -108,8 +108,16 @@ final class Program {
         return taken;
     }
 
+    /** Types the bytes, eight at a time to spare calls, and makes the draft a script. */
     static int define(ScriptLedger x, int... bytes) {
-        type(x, bytes);
+        for (int at = 0; at < bytes.length; at += 8) {
+            int n = Math.min(8, bytes.length - at);
+            long typed = 0;
+            for (int i = 0; i < n; i++) {
+                typed = typed << 8 | bytes[at + i];
+            }
+            x.type(typed, n);
+        }
         return x.define();
     }
 }

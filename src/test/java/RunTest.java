@@ -4,7 +4,9 @@ public final class RunTest {
         Due due = new Due();
         nothingRunYet(due);
         outcomes(due);
-        refusals(due);
+        kindsOfValues(due);
+        noSuchScript(due);
+        noSuchBudget(due);
         latest(due);
         nothingIsLeftOver(due);
         manyRuns(due);
@@ -55,19 +57,66 @@ public final class RunTest {
         isResult(due, "no steps at all", x, 3, 0, -1, 0);
     }
 
-    private static void refusals(Due due) {
+    /** "2 its value: 0 an integer, 1 a boolean, 2 a list, 3 a function, -1 when it has none; 3 that integer, ..". */
+    private static void kindsOfValues(Due due) {
+        int[] one = Program.builtin(Program.CONS, Program.integer(5), Program.nil());
+        int[] two = Program.builtin(Program.CONS, Program.integer(5), one);
+        value(due, "0", Program.integer(0), 0, 0);
+        value(due, "-1", Program.integer(-1), 0, -1);
+        value(due, "true", Program.yes(), 1, 1);
+        value(due, "false", Program.no(), 1, 0);
+        value(due, "an empty list", Program.nil(), 2, 0);
+        value(due, "a list of one", one, 2, 1);
+        value(due, "a list of two", two, 2, 2);
+        value(due, "a list of one list", Program.builtin(Program.CONS, two, Program.nil()), 2, 1);
+        value(due, "a function of a lambda", Program.lambda(Program.integer(5)), 3, 0);
+        value(due, "a function of a delay", Program.delay(Program.integer(5)), 3, 0);
+        value(due, "a builtin", Program.builtin(Program.SUBTRACT), 3, 0);
+        value(due, "a builtin with an argument", Program.builtin(Program.SUBTRACT, Program.integer(5)), 3, 0);
+        value(due, "none, it failed", Program.error(), -1, 0);
+        value(due, "none, it is out", Program.endless(), -1, 0);
+    }
+
+    private static void value(Due due, String name, int[] body, int kind, int number) {
+        ScriptLedger x = new ScriptLedger(0);
+        Program.define(x, Program.script(Program.integer(99)));
+        Program.define(x, Program.script(body));
+        x.run(0, 0, 0, 99);
+        x.run(1, 0, 0, 99);
+        due.same(name + ": its kind", x.result(2), kind);
+        due.same(name + ": its number", x.result(3), number);
+    }
+
+    /** "-1 when there is no such script". */
+    private static void noSuchScript(Due due) {
+        ScriptLedger x = new ScriptLedger(0);
+        for (int count = 0; count <= 6; count++) {
+            for (int script : new int[] {-1, count, 6, 7, Integer.MAX_VALUE, Integer.MIN_VALUE}) {
+                due.same(count + " scripts: run of " + script, x.run(script, 0, 0, 99), -1);
+            }
+            if (count > 0) {
+                isResult(due, "what is refused is no run", x, 1, 4, 0, count);
+            }
+            if (count < 6) {
+                due.same("define", Program.define(x, Program.script(Program.variable(1))), count);
+                due.same("run of " + count, x.run(count, 0, count + 1, 99), 1);
+            }
+        }
+    }
+
+    /** "or budget is not 0 .. 99". */
+    private static void noSuchBudget(Due due) {
         ScriptLedger x = new ScriptLedger(0);
         Program.define(x, Program.script(Program.variable(1)));
         due.same("run", x.run(0, 1, 33, 50), 1);
-        for (int script : new int[] {-1, 1, 5, 6, Integer.MAX_VALUE, Integer.MIN_VALUE}) {
-            due.same("run of script " + script, x.run(script, 0, 0, 99), -1);
-        }
         for (int budget : new int[] {-1, 100, Integer.MAX_VALUE, Integer.MIN_VALUE}) {
             due.same("run with budget " + budget, x.run(0, 0, 0, budget), -1);
         }
         isResult(due, "what is refused is no run", x, 1, 4, 0, 33);
         due.same("budget 99", x.run(0, 1, 34, 99), 1);
         due.same("budget 0", x.run(0, 1, 34, 0), 3);
+        due.same("budget -1 behind it", x.run(0, 1, 34, -1), -1);
+        isResult(due, "what is refused is no run", x, 3, 0, -1, 0);
     }
 
     private static void latest(Due due) {
@@ -109,7 +158,7 @@ public final class RunTest {
             Program.builtin(Program.CONS, Program.integer(1), Program.variable(0)))));
         Program.define(x, Program.apply(grower, grower, Program.nil()));
         Program.define(x, Program.script(Program.builtin(Program.SUBTRACT, Program.variable(2), Program.variable(1))));
-        for (int i = 0; i < 200; i++) {
+        for (int i = 0; i < 160; i++) {
             due.same("a long run", x.run(0, 0, 0, 99), 3);
             due.same("a short run", x.run(1, i, 5, 99), 1);
             due.same("its number", x.result(3), i - 5);

@@ -15,6 +15,7 @@ public final class DefineTest {
         wholeTerms();
         emptyDraft();
         bytesMissing();
+        bytesMissingBehindTheLast();
         bytesLeftOver();
         otherBytes();
         builtins();
@@ -87,6 +88,32 @@ public final class DefineTest {
             define("a head alone in a lambda", new int[] {1, head}, -2);
         }
         define("48 heads", Program.repeat(6, 47, new int[] {6}), -2);
+    }
+
+    /** The same with 48 bytes, as each of the six scripts: what would be behind the 48th byte is not read. */
+    private static void bytesMissingBehindTheLast() {
+        int[] applied = Program.error();
+        for (int i = 0; i < 14; i++) {
+            applied = Program.apply(applied, Program.integer(i));
+        }
+        int[][] lacking = {
+            Program.join(Program.repeat(2, 4, applied), new int[] {8}),
+            Program.join(Program.repeat(1, 3, new int[] {2}), Program.join(applied, new int[] {0})),
+            Program.join(Program.repeat(1, 3, new int[] {2}), Program.join(applied, new int[] {3})),
+            Program.join(Program.repeat(1, 3, new int[] {2}), Program.join(applied, new int[] {4}))};
+        for (int script = 0; script < 6; script++) {
+            ScriptLedger x = new ScriptLedger(0);
+            for (int i = 0; i < script; i++) {
+                Program.define(x, Program.nil());
+            }
+            for (int[] draft : lacking) {
+                DUE.same("bytes of the draft", draft.length, 48);
+                DUE.same("lacking as script " + script, Program.define(x, draft), -2);
+            }
+            int[] whole = Program.join(Program.repeat(1, 2, new int[] {2}), Program.join(applied, new int[] {0, 1}));
+            DUE.same("bytes of the draft", whole.length, 48);
+            DUE.same("whole as script " + script, Program.define(x, whole), script);
+        }
     }
 
     /** "or left over": a term and one byte more is none, whatever that byte is. */

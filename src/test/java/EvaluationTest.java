@@ -299,7 +299,8 @@ public final class EvaluationTest {
         for (int builtin = Program.EQUAL; builtin <= Program.LESS; builtin++) {
             boolean isSame = builtin == Program.EQUAL;
             due(builtin + " of one", Program.builtin(builtin, one), OTHER, 3, FUNCTION, 0);
-            due(builtin + " of two", Program.builtin(builtin, one, one), isSame ? TRUE : OTHER, 6, BOOLEAN, isSame ? 1 : 0);
+            due(builtin + " of two", Program.builtin(builtin, one, one),
+                isSame ? TRUE : OTHER, 6, BOOLEAN, isSame ? 1 : 0);
             fails(builtin + " of three", Program.builtin(builtin, one, one, one), 8);
         }
         due("IF of one", Program.builtin(Program.IF, one), OTHER, 3, FUNCTION, 0);
@@ -380,10 +381,10 @@ public final class EvaluationTest {
     private static void growing() {
         dueOfWhole("endless in 99", Program.endless(), 0, 0, 99, new int[] {OUT, 99, NO_VALUE, 0});
         // Every turn leaves a frame more, so the stack grows as long as there are steps.
-        int[] grower = Program.lambda(Program.apply(Program.builtin(Program.HEAD),
-            Program.apply(Program.variable(0), Program.variable(0))));
+        int[] itself = Program.apply(Program.variable(0), Program.variable(0));
+        int[] grower = Program.lambda(Program.apply(Program.builtin(Program.HEAD), itself));
         dueOfWhole("a growing stack", Program.apply(grower, grower), 0, 0, 99, new int[] {OUT, 99, NO_VALUE, 0});
-        int[] forces = Program.lambda(Program.force(Program.force(Program.apply(Program.variable(0), Program.variable(0)))));
+        int[] forces = Program.lambda(Program.force(Program.force(itself)));
         dueOfWhole("a stack of forces", Program.apply(forces, forces), 0, 0, 99, new int[] {OUT, 99, NO_VALUE, 0});
         int[] lists = Program.lambda(Program.lambda(Program.apply(Program.variable(1), Program.variable(1),
             Program.builtin(Program.CONS, Program.integer(1), Program.variable(0)))));

@@ -167,7 +167,8 @@ public final class FirstPhaseTest {
     private static void balances() {
         for (int off = -1; off <= 1; off++) {
             int answer = off == 0 ? 0 : 6;
-            submit("one of 500", new ScriptLedger(0), new Deal().input(0, 0).coin(480 + off).fee(20).signers(1), answer);
+            Deal one = new Deal().input(0, 0).coin(480 + off).fee(20).signers(1);
+            submit("one of 500", new ScriptLedger(0), one, answer);
             Deal two = new Deal().input(2, 0).input(4, 0).coin(100 + off).coin(160).fee(20).signers(1);
             submit("two of 280", split(), two, answer);
             Deal three = new Deal().input(2, 0).input(4, 0).input(3, 0).coin(0).coin(400).coin(60 + off);
@@ -418,7 +419,8 @@ public final class FirstPhaseTest {
     private static void emptyAfterwards() {
         Deal accepted = new Deal().input(4, 0).coin(220).fee(20).signers(1).guarantee(1);
         Deal unbalanced = new Deal().input(4, 0).coin(221).fee(20).signers(1).guarantee(1);
-        Deal minted = new Deal().input(4, 0).gift(0, 0, 220, 0, 1).mint(2, 1, 5).fee(20).signers(3).budget(40).guarantee(1);
+        Deal minted = new Deal().input(4, 0).gift(0, 0, 220, 0, 1).mint(2, 1, 5);
+        minted.fee(20).signers(3).budget(40).guarantee(1);
         Deal[] deals = {new Deal().fee(20).signers(15).guarantee(1), new Deal().input(0, 0).coin(5).fee(20).signers(15),
             accepted, unbalanced, minted};
         int[] answers = {2, 3, 0, 6, 8};

@@ -7,7 +7,7 @@ import java.util.Random;
  * every answer must be the same.
  */
 public final class ModelTest {
-    private static final int RUNS = 1500;
+    private static final int RUNS = 10000;
     private static final int CALLS = 512;
     /** What the dearest act (a script typed byte by byte) and the questions at the end take. */
     private static final int LAST_CALLS = 120;
@@ -301,7 +301,8 @@ public final class ModelTest {
             }
         }
         int outs = thrifty ? 3 : random.nextInt(4);
-        int budget = thrifty ? random.nextInt(30) : random.nextInt(3) == 0 ? random.nextInt(100) : 60 + random.nextInt(40);
+        int budget = thrifty ? random.nextInt(30) : random.nextInt(3) == 0 ? random.nextInt(100)
+            : 60 + random.nextInt(40);
         int fee = 5 + ins + outs + budget / 8 + random.nextInt(3) - (random.nextInt(9) == 0 ? 1 : 0);
         if (outs == 0) {
             fee = Math.max(fee, sums[0]);

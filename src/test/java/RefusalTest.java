@@ -94,7 +94,8 @@ public final class RefusalTest {
             futures.add(new Future("rolled back by " + k, x -> answers(x.rollback(blocks), Seen.of(x))));
         }
         futures.add(new Future("defined", x -> answers(x.define(), runs(x))));
-        futures.add(new Future("defined with a byte more", x -> answers(asInt(x.type(0x85, 1)), answers(x.define(), runs(x)))));
+        futures.add(new Future("defined with a byte more",
+            x -> answers(asInt(x.type(0x85, 1)), answers(x.define(), runs(x)))));
         futures.add(new Future("typed on", RefusalTest::roomInDraft));
         futures.add(new Future("added to", RefusalTest::roomInTransaction));
         return futures;
@@ -186,7 +187,8 @@ public final class RefusalTest {
         for (int height = 4; height <= 40; height++) {
             x.block();
         }
-        Deal deal = new Deal().input(4, 1).input(5, 2).input(1, 3).coin(1000).gift(7, 1, 300, 0, 0).gift(3, 2, 30, 0, 0);
+        Deal deal = new Deal().input(4, 1).input(5, 2).input(1, 3);
+        deal.coin(1000).gift(7, 1, 300, 0, 0).gift(3, 2, 30, 0, 0);
         deal.fee(50).within(40, 40).signers(11).make(DUE, x);
     }
 

@@ -55,7 +55,7 @@ public final class SecondPhaseTest {
         DUE.same(name + ": steps of the last run", x.result(1), steps);
     }
 
-    /** "the scripts needed RUN: by inputs, in their order"; "with the first whose outcome is not 0, nothing more is run". */
+    /** "by inputs, in their order"; "With the first whose outcome is not 0, nothing more is run". */
     private static void inputsInTheirOrder() {
         int[][] firstSecondAnswerSteps = {
             {7, 8, 0, LONGER_STEPS}, {7, 9, 1, LONGER_STEPS}, {6, 8, 1, STEPS}, {6, 9, 1, STEPS}};
@@ -283,7 +283,7 @@ public final class SecondPhaseTest {
         submit("context " + place + " is " + redeemer, x, rest(deal), answer);
     }
 
-    /** Output 2 has nothing, 3 has 50 of token 2 and 400 coins, 4 is locked by script 2 and has 300; the policies agree. */
+    /** Output 2 has nothing, 3 has 50 of token 2 and 400 coins, 4 has 300 and script 2 as its lock; policies agree. */
     private static ScriptLedger furnished() {
         ScriptLedger x = new ScriptLedger(220);
         Program.define(x, Program.script(Program.yes()));

@@ -229,14 +229,16 @@ public final class TransactionTest {
             DUE.yes("said", x.mint(asset, 9, 9));
             DUE.yes("the same with another redeemer", x.mint(asset, 9, 8));
             DUE.no("refused", x.mint(asset, 1000001, 3));
-            Deal deal = new Deal().input(0, 0).mint(asset, 6, 6).gift(0, 0, 480, asset == 1 ? 6 : 0, asset == 2 ? 6 : 0);
+            Deal deal = new Deal().input(0, 0).mint(asset, 6, 6);
+            deal.gift(0, 0, 480, asset == 1 ? 6 : 0, asset == 2 ? 6 : 0);
             submit("the latest holds", x, deal.fee(20).signers(3).budget(20).guarantee(1), 0);
             DUE.same("total", x.total(asset), 6);
             DUE.yes("some", x.mint(asset, 5, 5));
             DUE.yes("none", x.mint(asset, 0, 5));
             submit("none is minted", x, new Deal().input(1, 0).coin(480).fee(20).signers(2), 0);
             DUE.yes("of the other one", x.mint(3 - asset, 4, 4));
-            Deal both = new Deal().input(2, 0).mint(asset, 1, 1).gift(0, 0, 460, asset == 1 ? 7 : 4, asset == 2 ? 7 : 4);
+            Deal both = new Deal().input(2, 0).mint(asset, 1, 1);
+            both.gift(0, 0, 460, asset == 1 ? 7 : 4, asset == 2 ? 7 : 4);
             submit("both hold", x, both.fee(20).signers(1).budget(20).guarantee(3), 0);
         }
     }

@@ -130,6 +130,10 @@ public final class EvaluationTest {
         due("forced once", Program.force(Program.delay(Program.delay(Program.integer(5)))), OTHER, 3, FUNCTION, 0);
         int[] delayed = Program.apply(Program.lambda(Program.delay(Program.variable(0))), Program.integer(7));
         due("values around the delay", Program.force(delayed), OTHER, 6, INTEGER, 7);
+        int[] forcedElsewhere = Program.lambda(Program.apply(Program.lambda(Program.force(Program.variable(1))),
+            Program.integer(9)));
+        due("values around the delay, not around the force", Program.apply(forcedElsewhere, delayed),
+            OTHER, 12, INTEGER, 7);
         due("the values come back after a force", Program.builtin(Program.ADD, Program.force(delayed),
             Program.variable(2)), OTHER, 11, INTEGER, 7 + FIRST);
         fails("an integer forced", Program.force(Program.integer(1)), 2);

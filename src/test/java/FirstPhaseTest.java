@@ -402,16 +402,18 @@ public final class FirstPhaseTest {
         x.block();
         int coin = 1400;
         int latest = 0;
-        while (x.outputs() < outputs) {
-            int more = Math.min(3, outputs - x.outputs());
+        int more = 0;
+        for (int there = 2; there < outputs; there += more) {
+            more = Math.min(3, outputs - there);
             coin -= 9;
             Deal deal = new Deal().input(latest, 0).fee(9).signers(1);
-            latest = x.outputs();
+            latest = there;
             for (int i = 0; i < more; i++) {
                 deal.coin(i == 0 ? coin : 0);
             }
             submit("more", x, deal, 0);
         }
+        DUE.same("outputs", x.outputs(), outputs);
         return x;
     }
 

@@ -152,7 +152,8 @@ public final class RefusalTest {
         x.block();
         DUE.same("at 2", new Deal().input(2, 0).gift(0, 5, 250, 0, 0).fee(50).signers(1).submit(DUE, x), 0);
         x.block();
-        DUE.same("at 3", new Deal().input(3, 0).gift(3, -2, 380, 0, 0).fee(20).signers(2).submit(DUE, x), 0);
+        Deal last = new Deal().input(3, 0).gift(3, -2, 180, 0, 0).gift(4, 9, 200, 0, 0).fee(20).signers(2);
+        DUE.same("at 3", last.submit(DUE, x), 0);
         DUE.same("a run", x.run(0, 3, 4, 99), 1);
     }
 
@@ -160,8 +161,8 @@ public final class RefusalTest {
     private static void busy(ScriptLedger x) {
         grown(x);
         x.type(0x01010103L, 4);
-        Deal deal = new Deal().input(4, 11).gift(2, -8, 242, 6, 0).mint(1, 6, 6);
-        deal.fee(8).within(3, 3).signers(3).budget(9).guarantee(1).make(DUE, x);
+        Deal deal = new Deal().input(4, 11).input(6, 9).gift(2, -8, 440, 6, 0).mint(1, 6, 6);
+        deal.fee(10).within(3, 3).signers(3).budget(18).guarantee(1).make(DUE, x);
     }
 
     /** A transaction that would lose its guarantee to a script whose value tells its terms. */
@@ -171,7 +172,7 @@ public final class RefusalTest {
         deal.fee(19).within(1, 20).signers(11).budget(99).guarantee(1).make(DUE, x);
     }
 
-    /** Six scripts, a draft of 48 bytes, a transaction of three inputs and three outputs, height 40. */
+    /** Six scripts, a draft of 48 bytes, a transaction of three inputs and three outputs, and one done at height 40. */
     private static void full(ScriptLedger x) {
         fullButForTheDraft(x);
         for (int i = 0; i < 6; i++) {
@@ -187,8 +188,9 @@ public final class RefusalTest {
         for (int height = 4; height <= 40; height++) {
             x.block();
         }
-        Deal deal = new Deal().input(4, 1).input(5, 2).input(1, 3);
-        deal.coin(1000).gift(7, 1, 300, 0, 0).gift(3, 2, 30, 0, 0);
+        DUE.same("at 40", new Deal().input(5, 0).gift(3, -3, 160, 0, 0).fee(20).signers(8).submit(DUE, x), 0);
+        Deal deal = new Deal().input(4, 1).input(7, 2).input(1, 3);
+        deal.coin(1000).gift(7, 1, 80, 0, 0).gift(3, 2, 30, 0, 0);
         deal.fee(50).within(40, 40).signers(11).make(DUE, x);
     }
 
@@ -281,14 +283,15 @@ public final class RefusalTest {
         return List.of(none("rollback by more than the height", x -> x.rollback(4)),
             none("run of a script that is not defined", x -> x.run(2, 0, 0, 99)),
             no("spend of what is an input", x -> x.spend(4, 12)),
-            none("about one behind the last", x -> x.about(6, 5)));
+            no("spend of what is an input of a script", x -> x.spend(6, 12)),
+            none("about one behind the last", x -> x.about(7, 5)));
     }
 
     private static List<Refused> refusedWhenFull() {
         return List.of(no("a 49th byte", x -> x.type(8, 1)),
             no("eight bytes more", x -> x.type(8, 8)),
             no("a fourth input", x -> x.spend(0, 9)),
-            no("an input again", x -> x.spend(5, 9)),
+            no("an input again", x -> x.spend(7, 9)),
             no("a fourth new output", x -> x.give(0, 0, 0, 0, 0)),
             none("a 41st block", x -> x.block()));
     }
@@ -321,16 +324,17 @@ public final class RefusalTest {
     private static void submissions() {
         refused(2, new Deal().coin(5).fee(20).signers(3));
         refused(3, fair().input(0, 0));
-        refused(3, fair().input(6, 0));
+        refused(3, fair().input(7, 0));
         refused(4, fair().within(4, 40));
         refused(4, fair().within(0, 2));
         refused(5, new Deal().input(4, 11).coin(244).fee(6).signers(1));
         refused(6, fair().fee(21));
         refused(7, fair().signers(2));
-        refused(8, new Deal().input(4, 11).coin(230).input(5, 0).gift(9, 0, 380, 0, 0).fee(20).signers(9), new Deal()
-            .input(7, 0).fee(380).guarantee(1).signers(2));
+        refused(8, new Deal().input(4, 11).input(5, 0).coin(230).gift(9, 0, 180, 0, 0).fee(20).signers(9),
+            new Deal().input(8, 0).fee(180).signers(2).guarantee(1));
         refused(9, fair().guarantee(0));
         refused(9, fair().guarantee(6));
+        refused(9, fair().guarantee(7));
         refused(9, fair().guarantee(4));
         refused(9, fair().guarantee(5));
     }
